@@ -1505,25 +1505,26 @@ public final class CircuitDesk {
             best.erase();
             path.erase();
             path.append(from, NONE);
-            visit(net, to, 0, 1);
+            visit(this, net, to, 0, 1);
             return best.length > 0;
         }
 
-        private void visit(Net net, int to, int delay, int depth) {
-            int node = path.lastNode();
+        /** Tries all ways on from the last node of the path, which has as many nodes as the depth. */
+        private static void visit(Finder finder, Net net, int to, int delay, int depth) {
+            int node = finder.path.lastNode();
             if (node == to) {
-                keepIfBetter(delay);
+                finder.keepIfBetter(delay);
                 return;
             }
-            if (depth >= MAX_WAY || best.length > 0 && delay >= bestDelay) {
+            if (depth >= MAX_WAY || finder.best.length > 0 && delay >= finder.bestDelay) {
                 return;
             }
             for (int next = 0; next < net.nodeCount; next++) {
                 int link = net.linkBetween(node, next);
-                if (isOpen(link) && !path.hasNode(next)) {
-                    path.append(next, link);
-                    visit(net, to, delay + net.delayOn(link), depth + 1);
-                    path.dropLast();
+                if (finder.isOpen(link) && !finder.path.hasNode(next)) {
+                    finder.path.append(next, link);
+                    visit(finder, net, to, delay + net.delayOn(link), depth + 1);
+                    finder.path.dropLast();
                 }
             }
         }

@@ -8,6 +8,7 @@ public final class ActsTest {
         open();
         openWithoutLabels();
         close();
+        openAnew();
         move();
         moveReasons();
         moveBest();
@@ -99,6 +100,37 @@ public final class ActsTest {
         Check.draft(desk, 1, 3);
         CHECK.due("open again", desk.open(5, 0), 0);
         CHECK.due("a new circuit starts anew", desk.circuit(1, 7), 0);
+    }
+
+    /** A circuit that is opened behind one that was closed has nothing of it. */
+    private static void openAnew() {
+        CircuitDesk desk = Check.desk(SQUARE + "circuit 9 0 0 1 3;");
+        desk.offer(0, 9);
+        desk.run(3);
+        desk.moveBest(0, -1);
+        desk.run(desk.movedIn(0));
+        CHECK.due("late ones of the first circuit", desk.circuit(0, 10), 2);
+        desk.offer(0, 2);
+        desk.run(1);
+        desk.setUp(2, false);
+        desk.run(1);
+        CHECK.due("lost ones of the first circuit", desk.circuit(0, 9), 2);
+        desk.setUp(2, true);
+        CHECK.due("close", desk.close(0), 0);
+        Check.draft(desk, 1, 3);
+        CHECK.due("open", desk.open(2, 0), 0);
+        int[] due = {1, 3, 2, 0, 0, 3, 0, 0, 0, 0, 0, 0, 0, 0, 0};
+        for (int what = 0; what <= 14; what++) {
+            CHECK.due("circuit(0, " + what + ") anew", desk.circuit(0, what), due[what]);
+        }
+        CHECK.dueD("mean delay anew", desk.meanDelay(0), -1.0);
+        CHECK.due("no new way", desk.way(0, true, 1, 0), -1);
+        CHECK.due("its way alone", desk.way(0, false, 2, 0), -1);
+        desk.offer(0, 2);
+        desk.run(5);
+        CHECK.due("delivered", desk.circuit(0, 8), 2);
+        CHECK.due("none is late", desk.circuit(0, 10), 0);
+        CHECK.dueD("mean delay", desk.meanDelay(0), 3.0);
     }
 
     private static void move() {

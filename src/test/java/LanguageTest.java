@@ -12,7 +12,7 @@ public final class LanguageTest {
         "\\bimport\\b", "\\bpackage\\b", "->", "::", "\\bcatch\\b", "\\bfinally\\b",
         "\\bsynchronized\\b", "\\bassert\\b", "\\bstatic\\s*\\{", "\\bSystem\\.(?!arraycopy)",
         "\\bThread\\b", "\\brandom\\b", "\\bObject\\b", "\\bequals\\b", "\\bhashCode\\b",
-        "\\btoString\\b", "\\bvar\\b", "\\w+Exact\\b", "\\byield\\b", "\\bthis\\b",
+        "\\btoString\\b", "\\bvar\\b", "\\w+Exact\\b", "\\byield\\b",
         "@\\w+", "\\bnative\\b", "\\bprotected\\b", "\\bnull\\b",
     };
 

@@ -7,6 +7,7 @@ public final class PredictTest {
         ahead();
         weakLink();
         save();
+        saveAllOfIt();
         savedStatesAreApart();
         CHECK.end("PredictTest");
     }
@@ -135,6 +136,49 @@ public final class PredictTest {
         desk.restore(0);
         CHECK.due("all is as it was, again", print(desk), before);
         CHECK.due("delivered from there, again", desk.run(50), 95);
+    }
+
+    /** All that a state has, after another one was there. */
+    private static void saveAllOfIt() {
+        String net = "node 4;node 4;node 4;link 0 1 9 5;link 1 2 9 1;link 0 2 9 1;";
+        CircuitDesk desk = Check.desk(net + "circuit 1 1 0 1 2;circuit 2 2 1 0;");
+        desk.run(9);
+        desk.moveBest(0, -1);
+        desk.abort(0);
+        desk.moveBest(0, -1);
+        desk.run(7);
+        desk.setUp(0, false);
+        desk.offer(1, 9);
+        desk.run(9);
+        desk.setUp(0, true);
+        desk.set(1, 1);
+        Check.draft(desk, 0, 1, 2);
+        desk.move(0);
+        desk.run(desk.movedIn(0));
+        desk.run(5);
+        desk.moveBest(0, -1);
+        desk.run(2);
+        CHECK.due("held", desk.circuit(0, 11), 4);
+        CHECK.due("drains", desk.circuit(0, 12), 6);
+        long before = print(desk);
+        long behind = printBehind(desk, 0);
+        CHECK.due("load", Check.load(desk, "node 1;node 1;link 1 0 5 1;circuit 3 1 1 0;"), 1);
+        desk.run(3);
+        desk.restore(0);
+        CHECK.due("all is as it was", print(desk), before);
+        CHECK.due("ORDER", desk.count(1), 1);
+        CHECK.due("it goes on as it did", printBehind(desk, 1), behind);
+    }
+
+    /** Saves, plays on, and answers what is seen then. */
+    private static long printBehind(CircuitDesk desk, int slot) {
+        desk.save(slot);
+        long print = 0;
+        for (int i = 0; i < 12; i++) {
+            print = print * 31 + desk.run(1);
+            print = print * 31 + print(desk);
+        }
+        return print;
     }
 
     private static void savedStatesAreApart() {

@@ -17,6 +17,8 @@ public final class TextTest {
         notToHave();
         leastCode();
         whatStays();
+        nothingIsLeft();
+        noMoveIsLeft();
         CHECK.end("TextTest");
     }
 
@@ -86,6 +88,7 @@ public final class TextTest {
         CHECK.due("label of node 1", desk.way(0, false, 1, 2), 0);
         CHECK.due("made entry", desk.label(1, 0, 3), 1);
         CHECK.due("reserved", desk.link(0, 5), 25);
+        good("node1;node1;link 0 1 1 1;", 0);
         good("node 000000000000000000000000000000000001;", 0);
         good(SEVEN_IN_A_ROW + "circuit 1 0 0 1 2 3 4 5;", 1);
         good(TEN_NODES, 0);
@@ -101,6 +104,13 @@ public final class TextTest {
         error("5", 1, 0);
         error("nodes 5;", 1, 0);
         error("nod 5;", 1, 0);
+        error("mode 5;", 1, 0);
+        error("nodea 5;", 1, 0);
+        error("nodez 5;", 1, 0);
+        error("node` 5;", 1, 4);
+        error("node{ 5;", 1, 4);
+        error("node 5/;", 1, 6);
+        error("node 5:;", 1, 6);
         error("Node 5;", 1, 0);
         error("no#de 5;", 1, 0);
         error("node 5 5;", 1, 7);
@@ -228,5 +238,75 @@ public final class TextTest {
         desk.restore(1);
         CHECK.due("code stays after restore", desk.errorCode(), 1);
         CHECK.due("position stays after restore", desk.errorPosition(), 0);
+    }
+
+    /** A setup in place of one whose circuit is moved, in each state of its move. */
+    private static void noMoveIsLeft() {
+        String net = "node 4;node 4;node 4;link 0 1 9 5;link 1 2 9 1;link 0 2 9 1;";
+        for (int ticks = 0; ticks < 11; ticks++) {
+            CircuitDesk desk = Check.desk(net + "circuit 1 1 0 1 2;set 1 1;");
+            desk.moveBest(0, -1);
+            desk.run(ticks + 1);
+            for (int i = 0; i < 2; i++) {
+                CHECK.due("load", Check.load(desk, net + "circuit 1 1 0 2;"), 1);
+                for (int what : new int[] {4, 6, 11, 12, 13, 14}) {
+                    CHECK.due("circuit(0, " + what + ")", desk.circuit(0, what), 0);
+                }
+                CHECK.due("movedIn", desk.movedIn(0), 0);
+                CHECK.due("no new way", desk.way(0, true, 0, 0), -1);
+                Check.draft(desk, 0, 1, 2);
+                CHECK.due("move", desk.move(0), 0);
+            }
+            CHECK.due("load", Check.load(desk, net + "circuit 1 1 0 2;"), 1);
+            CHECK.due("entries to make", desk.circuit(0, 14), 0);
+        }
+    }
+
+    /** Whatever was there, a setup begins with nothing; so does each circuit in it. */
+    private static void nothingIsLeft() {
+        CircuitDesk desk = new CircuitDesk();
+        String text = "node 3;node 3;node 3;link 0 1 9 5;link 1 2 9 1;link 0 2 9 1;";
+        for (int i = 0; i < 4; i++) {
+            CHECK.due("load", Check.load(desk, text + "circuit 1 1 0 1 2;set 0 3;set 1 1;"), 1);
+            CHECK.due("time", desk.count(5), 0);
+            desk.run(9);
+            desk.set(1, 0);
+            desk.moveBest(0, -1);
+            desk.run(9);
+            CHECK.due("abort", desk.abort(0), 7);
+            desk.run(desk.movedIn(0));
+            desk.setUp(2, false);
+            desk.offer(0, 9);
+            desk.moveBest(0, 2);
+            desk.abort(0);
+            desk.set(1, 1);
+            desk.setUp(2, true);
+            Check.draft(desk, 0, 1, 2);
+            desk.move(0);
+            desk.run(4 - i);
+            for (int what : new int[] {7, 8, 9, 10, 11, 14, 15}) {
+                CHECK.dueTrue("count(" + what + ")", desk.count(what) > 0);
+            }
+        }
+        CHECK.due("load", Check.load(desk, "node 3;node 3;node 3;link 1 2 9 1;circuit 1 0 1 2;"), 1);
+        int[] due = {1, 0, 3, 1, 1, 0, 0, 0, 0, 0, 0, 0, 0, 0, 0, 0, 0};
+        for (int what = 0; what <= 16; what++) {
+            CHECK.due("count(" + what + ") after load", desk.count(what), due[what]);
+        }
+        int[] circuit = {1, 2, 1, 0, 0, 1, 0, 0, 0, 0, 0, 0, 0, 0, 0};
+        for (int what = 0; what <= 14; what++) {
+            CHECK.due("circuit(0, " + what + ") after load", desk.circuit(0, what), circuit[what]);
+        }
+        CHECK.dueD("mean delay after load", desk.meanDelay(0), -1.0);
+        CHECK.due("no new way", desk.way(0, true, 0, 0), -1);
+        CHECK.due("the links of before are gone", desk.node(0, 6), 0);
+        CHECK.due("the labels of before are free", desk.node(2, 1), 2);
+        desk.offer(0, 3);
+        desk.run(4);
+        CHECK.dueD("mean delay anew", desk.meanDelay(0), 1.0);
+        CHECK.due("none is late", desk.count(11), 0);
+        CHECK.due("an empty setup", Check.load(desk, ""), 0);
+        desk.addNode(2);
+        CHECK.due("its labels are free", desk.node(0, 1), 2);
     }
 }

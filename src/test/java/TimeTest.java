@@ -218,5 +218,7 @@ public final class TimeTest {
         CHECK.dueD("usage without links", none.usage(), 0.0);
         CircuitDesk free = Check.desk("node 1;node 1;link 0 1 9 1;");
         CHECK.dueD("usage without circuits", free.usage(), 0.0);
+        CircuitDesk full = Check.desk("node 1;node 1;link 0 1 1 1;circuit 1 0 0 1;");
+        CHECK.dueD("usage of all there is", full.usage(), 1.0);
     }
 }
