@@ -171,19 +171,28 @@ public final class RandomRunsTest {
         return reference.a.spaces.size();
     }
 
-    /** Mostly a number below the bound, sometimes one just outside. */
+    /** Mostly a number below the bound, sometimes one outside. */
     private int index(int bound) {
         if (below(25) == 0) {
-            return below(2) == 0 ? -1 : bound;
+            return outside(0, bound - 1);
         }
         return below(bound);
     }
 
     private int ranged(int least, int most) {
         if (below(25) == 0) {
-            return below(2) == 0 ? least - 1 : most + 1;
+            return outside(least, most);
         }
         return least + below(most - least + 1);
+    }
+
+    private int outside(int least, int most) {
+        switch (below(6)) {
+            case 0: return Integer.MIN_VALUE;
+            case 1: return Integer.MAX_VALUE;
+            case 2: case 3: return least - 1;
+            default: return most + 1;
+        }
     }
 
     private void build() {
