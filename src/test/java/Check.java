@@ -28,6 +28,19 @@ final class Check {
         }
     }
 
+    /** Two texts of several lines; the first line that differs is told. */
+    void same(String claim, String got, String want) {
+        String[] gotLines = got.split("\n");
+        String[] wantLines = want.split("\n");
+        int line = 0;
+        while (line < gotLines.length - 1 && line < wantLines.length - 1
+                && gotLines[line].equals(wantLines[line])) {
+            line++;
+        }
+        dueTrue(claim + ": " + gotLines[line] + "\n    instead of: " + wantLines[line],
+                got.equals(want));
+    }
+
     void dueOutOfBounds(String call, Call made) {
         dueThrow(call, IndexOutOfBoundsException.class, made);
     }
@@ -62,6 +75,10 @@ final class Check {
 
     int wrongOnes() {
         return wrong;
+    }
+
+    int askedOnes() {
+        return asked;
     }
 
     void end(String name) {
