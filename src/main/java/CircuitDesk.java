@@ -851,7 +851,7 @@ public final class CircuitDesk {
             return sum;
         }
 
-        /** Gives a node a label, whose entry is not made; answers its slot, NONE if it gets none. */
+        /** Gives a node a label without a made entry; answers its slot, NONE if it gets none. */
         int take(Net net, int node, int circuit, int borrow) {
             int slot = lowestFree(node);
             if (slot == NONE && borrowedBy(node) < borrow) {
@@ -1366,7 +1366,7 @@ public final class CircuitDesk {
             packetCount = kept;
         }
 
-        /** A packet is at the node to which it went; answers whether it is on its way further on. */
+        /** A packet is at the node to which it went; answers whether it is on its way still. */
         private boolean goesOn(Packet row) {
             int circuit = labels.circuitOf(row.slot);
             if (!isCircuit(circuit) || !labels.hasMadeEntry(row.slot, row.target)) {
@@ -1509,7 +1509,7 @@ public final class CircuitDesk {
             return best.length > 0;
         }
 
-        /** Tries all ways on from the last node of the path, which has as many nodes as the depth. */
+        /** Tries all ways on from the last node of the path; the depth is its number of nodes. */
         private static void visit(Finder finder, Net net, int to, int delay, int depth) {
             int node = finder.path.lastNode();
             if (node == to) {

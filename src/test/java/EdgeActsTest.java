@@ -31,8 +31,8 @@ public final class EdgeActsTest {
         check.due("a 9th", Nets.open(full, 1, 0, 1), 1);
     }
 
-    @Sentence(in = "Promise 19", says = "Opens a circuit along the draft, which is empty then; it is"
-            + " the last one, with an empty backlog.")
+    @Sentence(in = "Promise 19", says = "Opens a circuit along the draft, which is empty then; it"
+            + " is the last one, with an empty backlog.")
     static void promise19_theDraftIsEmptyThenAndItIsTheLastOne(Check check) {
         CircuitDesk desk = Check.desk(Nets.row(6, 4, 99, 1));
         for (int c = 0; c <= 7; c++) {

@@ -160,8 +160,8 @@ public final class EdgeDraftTest {
         check.due("draftBest(2, 0)", desk.draftBest(2, 0, 1), 3);
     }
 
-    @Sentence(in = "Promise 17", says = "Throws IllegalArgumentException if both nodes are the same,"
-            + " or band is out of range")
+    @Sentence(in = "Promise 17", says = "Throws IllegalArgumentException if both nodes are the"
+            + " same, or band is out of range")
     static void promise17_throwsIfAnArgumentIsOutOfRange(Check check) {
         CircuitDesk desk = Check.desk(Nets.pair(1, 99, 1));
         check.dueIllegalArgument("draftBest(0, 0)", () -> desk.draftBest(0, 0, 1));

@@ -317,8 +317,8 @@ public final class EdgeMoveTest {
         }
     }
 
-    @Sentence(in = "PACKETS", says = "A packet is on a link, with the label that it has for the node"
-            + " to which it goes, and some ticks that it still takes.")
+    @Sentence(in = "PACKETS", says = "A packet is on a link, with the label that it has for the"
+            + " node to which it goes, and some ticks that it still takes.")
     static void promise28_aPacketIsOnALinkWithALabel(Check check) {
         CircuitDesk desk = Check.desk(Nets.row(3, 4, 9, 2) + "circuit 1 0 2 1;circuit 1 0 0 1 2;");
         desk.offer(1, 1);
@@ -459,9 +459,9 @@ public final class EdgeMoveTest {
     }
 
     @Sentence(in = "A TICK", says = {"each circuit in a phase above 0, by ascending numbers, does"
-            + " what is told above for one tick", "in the phase 1 it makes one entry, or, if all are"
-            + " made, switches over", "in the phase 2 one of its ticks passes (if it is the last"
-            + " one, the phase is 3)", "in the phase 3 one label is given up."})
+            + " what is told above for one tick", "in the phase 1 it makes one entry, or, if all"
+            + " are made, switches over", "in the phase 2 one of its ticks passes (if it is the"
+            + " last one, the phase is 3)", "in the phase 3 one label is given up."})
     static void promise25_eachMovedCircuitTakesOneStep(Check check) {
         CircuitDesk desk = Check.desk(Nets.triangle(9, 9, 1, 2, 1)
                 + Nets.times(4, "circuit 1 0 0 1 2;"));

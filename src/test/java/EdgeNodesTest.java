@@ -275,8 +275,8 @@ public final class EdgeNodesTest {
         check.due("set(0, 0)", desk.set(0, 0), 1);
     }
 
-    @Sentence(in = "Promise 10", says = "Throws IllegalArgumentException if what is out of range, or"
-            + " value is out of the range of the setting")
+    @Sentence(in = "Promise 10", says = "Throws IllegalArgumentException if what is out of range,"
+            + " or value is out of the range of the setting")
     static void promise10_throwsIfWhatOrValueIsOutOfRange(Check check) {
         CircuitDesk desk = new CircuitDesk();
         for (int what : new int[] {LEAST, -1, 2, 3, MOST}) {
@@ -403,7 +403,8 @@ public final class EdgeNodesTest {
         }
         desk.close(3);
         for (int c = 0; c <= 7; c++) {
-            check.due("circuit of label " + c, desk.label(1, c, 1), c < 3 ? c : c == 3 ? -1 : c - 1);
+            int due = c < 3 ? c : c == 3 ? -1 : c - 1;
+            check.due("circuit of label " + c, desk.label(1, c, 1), due);
         }
         Nets.open(desk, 1, 1, 0);
         check.due("circuit of the label 0 of node 0", desk.label(0, 0, 1), 7);
@@ -423,6 +424,10 @@ public final class EdgeNodesTest {
         }
         check.due("the new one is the way", desk.label(2, 1, 2), 0);
         check.due("the old one is free", desk.label(2, 0, 2), -1);
+        CircuitDesk six = Check.desk(Nets.row(6, 4, 9, 1) + "link 0 5 9 1;circuit 1 0 0 5;");
+        Nets.move(six, 0, 0, 1, 2, 3, 4, 5);
+        check.due("the old one beside six nodes", six.label(5, 0, 2), 0);
+        check.due("the new one of six nodes", six.label(5, 1, 2), 1);
     }
 
     @Sentence(in = "Promise 13", says = "3: 1 if the entry is made, else 0")

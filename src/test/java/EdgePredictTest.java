@@ -214,6 +214,9 @@ public final class EdgePredictTest {
         check.due("without circuits", Check.desk(Nets.pair(1, 9, 1)).weakLink(), -1);
         check.due("without nodes", new CircuitDesk().weakLink(), -1);
         check.due("one link, one circuit", Nets.circuits(1).weakLink(), 0);
+        CircuitDesk closed = Nets.circuits(1);
+        closed.close(0);
+        check.due("a circuit that was closed", closed.weakLink(), -1);
         String ring = Nets.triangle(4, 20, 1, 1, 1) + "circuit 5 0 0 1;";
         check.due("another way", Check.desk(ring).weakLink(), -1);
         check.due("another way with just room for it",

@@ -376,6 +376,12 @@ public final class EdgeRulesTest {
         check.due("a neighbour has 1 free label", Nets.open(desk, 1, 0, 1), 0);
         check.due("it lends", desk.way(3, false, 1, 1), 2);
         check.due("no neighbour has free labels", Nets.open(desk, 1, 0, 1), 6);
+        CircuitDesk apart = Check.desk("node 2;node 1;node 1;node 2;link 1 2 99 1;set 0 4;"
+                + "circuit 1 0 2 1;circuit 1 0 1 2;");
+        check.due("nodes that are no neighbours have some", Nets.open(apart, 1, 1, 2), 6);
+        apart.addLink(3, 2, 1, 1);
+        check.due("one of them is a neighbour", Nets.open(apart, 1, 1, 2), 0);
+        check.due("that one lends", apart.way(2, false, 1, 1), 3);
     }
 
     @Sentence(in = "LABELS", says = "it lends its highest free label.")

@@ -312,8 +312,8 @@ public final class EdgeTextTest {
         }
     }
 
-    @Sentence(in = "Promise 6", says = "Returns the error position of the latest load(); NONE if its"
-            + " text had no error, or if there was no such call.")
+    @Sentence(in = "Promise 6", says = "Returns the error position of the latest load(); NONE if"
+            + " its text had no error, or if there was no such call.")
     static void promise06_thePositionOfTheLatestLoad(Check check) {
         CircuitDesk desk = new CircuitDesk();
         check.due("no such call", desk.errorPosition(), -1);
@@ -345,7 +345,8 @@ public final class EdgeTextTest {
         error(check, "\u00ff", 1, 0);
     }
 
-    @Sentence(in = "SETUP TEXTS", says = "Its tokens are words (maximal runs of the letters a to z)")
+    @Sentence(in = "SETUP TEXTS",
+            says = "Its tokens are words (maximal runs of the letters a to z)")
     static void promise04_wordsAreMaximalRunsOfLetters(Check check) {
         good(check, "node1;");
         error(check, "nodes 1;", 1, 0);
@@ -468,7 +469,8 @@ public final class EdgeTextTest {
         error(check, row + "circuit 1 0 0 1 x;", 1, row.length() + 16);
     }
 
-    @Sentence(in = "SETUP TEXTS", says = "ONE, OTHER and the NODES are nodes that are there already")
+    @Sentence(in = "SETUP TEXTS",
+            says = "ONE, OTHER and the NODES are nodes that are there already")
     static void promise04_nodesThatAreThereAlready(Check check) {
         errorAtLast(check, "link 0", 2);
         errorAtLast(check, "node 1;link 1", 2);
@@ -579,8 +581,8 @@ public final class EdgeTextTest {
         }
     }
 
-    @Sentence(in = "SETUP TEXTS", says = "3 for the first word of an 11th node, a 17th link or a 9th"
-            + " circuit, and for a 7th NODE")
+    @Sentence(in = "SETUP TEXTS", says = "3 for the first word of an 11th node, a 17th link or a"
+            + " 9th circuit, and for a 7th NODE")
     static void promise05_code3(Check check) {
         good(check, TEN_NODES);
         error(check, TEN_NODES + "node 1;", 3, TEN_NODES.length());

@@ -434,6 +434,12 @@ public final class EdgeTimeTest {
         check.dueD("13 of 13", desk.usage(), 13.0f / 13.0f);
         CircuitDesk third = Check.desk(Nets.pair(1, 3, 1) + "circuit 1 0 0 1;");
         check.dueTrue("a third as a float", third.usage() == 1.0f / 3.0f);
+        third.save(0);
+        third.addNode(1);
+        third.addLink(1, 2, 97, 1);
+        check.dueD("1 of 100", third.usage(), 1.0f / 100.0f);
+        third.restore(0);
+        check.dueD("1 of 3, as it was", third.usage(), 1.0f / 3.0f);
         check.dueTrue("a third as a float is no third as a double",
                 (double) third.usage() != 1.0 / 3.0);
     }

@@ -15,7 +15,8 @@ public final class EdgeWaysTest {
     }
 
     private static void best(Check check, CircuitDesk desk, int from, int to, int... due) {
-        check.due("draftBest(" + from + ", " + to + ", 1)", desk.draftBest(from, to, 1), due.length);
+        int length = desk.draftBest(from, to, 1);
+        check.due("draftBest(" + from + ", " + to + ", 1)", length, due.length);
         for (int i = 0; i < due.length; i++) {
             check.due("draftNode(" + i + ")", desk.draftNode(i), due[i]);
         }
@@ -63,6 +64,9 @@ public final class EdgeWaysTest {
         best(check, Check.desk(net + "link 0 3 9 4;"), 0, 3, 0, 1, 2, 3);
         // 0, 2, 3 has fewer nodes and is lexicographically greater than 0, 1, 2, 3
         best(check, Check.desk(net + "link 0 2 9 2;"), 0, 3, 0, 2, 3);
+        // 0, 1, 3 is lexicographically lower than 0, 2, 4, 3, too
+        best(check, Check.desk("node 1;node 1;node 1;node 1;node 1;link 0 1 9 2;link 1 3 9 2;"
+                + "link 0 2 9 1;link 2 4 9 1;link 4 3 9 2;"), 0, 3, 0, 1, 3);
     }
 
     @Sentence(in = "BEST WAYS", says = "then the lexicographically lowest one.")

@@ -11,9 +11,11 @@ import java.util.TreeSet;
 public final class FaceTest {
     private static final String[] FACE = {
         "int appendText(int) ISE", "int truncateText(int) IAE", "int load()", "int errorCode()",
-        "int errorPosition()", "int addNode(int) IAE ISE", "int addLink(int,int,int,int) IOBE IAE ISE",
+        "int errorPosition()", "int addNode(int) IAE ISE",
+        "int addLink(int,int,int,int) IOBE IAE ISE",
         "boolean setUp(int,boolean) IOBE", "int set(int,int) IAE", "int count(int) IAE",
-        "int node(int,int) IOBE IAE", "int label(int,int,int) IOBE IAE", "int link(int,int) IOBE IAE",
+        "int node(int,int) IOBE IAE", "int label(int,int,int) IOBE IAE",
+        "int link(int,int) IOBE IAE",
         "int draft(int) IOBE ISE", "int clearDraft()", "int draftBest(int,int,int) IOBE IAE",
         "int draftNode(int) IOBE", "int open(int,int) IAE", "int close(int) IOBE",
         "int move(int) IOBE", "int moveBest(int,int) IOBE", "int abort(int) IOBE",
@@ -75,8 +77,8 @@ public final class FaceTest {
     private static void noPrivateNamesake(Check check, Class<?> desk, Set<String> names) {
         for (Class<?> c : desk.getDeclaredClasses()) {
             check.dueTrue(c + " is static", Modifier.isStatic(c.getModifiers()));
-            check.dueTrue(c + " is not public",
-                    !Modifier.isPublic(c.getModifiers()) && !Modifier.isProtected(c.getModifiers()));
+            int opened = c.getModifiers() & (Modifier.PUBLIC | Modifier.PROTECTED);
+            check.dueTrue(c + " is not public", opened == 0);
             for (Method m : c.getDeclaredMethods()) {
                 check.dueTrue(m + " bears a name of the face", !names.contains(m.getName()));
             }

@@ -5,7 +5,7 @@ import java.nio.file.Path;
 import java.util.regex.Matcher;
 import java.util.regex.Pattern;
 
-/** What of LANGUAGE.md can be seen in the text of the program. Argument: the root of the project. */
+/** What of LANGUAGE.md can be seen in the program's text. Argument: the root of the project. */
 public final class LanguageTest {
     private static final Check CHECK = new Check();
     private static final String[] FORBIDDEN = {

@@ -103,21 +103,26 @@ public final class PredictTest {
         CHECK.due("on its new way", moved.weakLink(), 2);
     }
 
-    private static void save() {
+    /** A desk with a circuit that is moved, one that waits, and packets of both. */
+    private static CircuitDesk moving() {
         CircuitDesk desk = Check.desk("node 2;node 1;node 3;link 0 1 9 2;link 1 2 9 3;link 0 2 9 9;"
                 + "circuit 4 1 0 1 2;set 0 3;set 1 1;");
-        CHECK.dueIllegalArgument("save(-1)", () -> desk.save(-1));
-        CHECK.dueIllegalArgument("save(2)", () -> desk.save(2));
-        CHECK.dueIllegalArgument("restore(-1)", () -> desk.restore(-1));
-        CHECK.dueIllegalArgument("restore(2)", () -> desk.restore(2));
-        CHECK.dueIllegalState("restore(0)", () -> desk.restore(0));
         desk.run(5);
         Check.draft(desk, 0, 1);
         CHECK.due("open", desk.open(1, 1), 0);
         desk.offer(1, 3);
         desk.moveBest(0, 0);
         desk.run(1);
-        long before = print(desk);
+        return desk;
+    }
+
+    private static void save() {
+        CircuitDesk desk = moving();
+        CHECK.dueIllegalArgument("save(-1)", () -> desk.save(-1));
+        CHECK.dueIllegalArgument("save(2)", () -> desk.save(2));
+        CHECK.dueIllegalArgument("restore(-1)", () -> desk.restore(-1));
+        CHECK.dueIllegalArgument("restore(2)", () -> desk.restore(2));
+        CHECK.dueIllegalState("restore(0)", () -> desk.restore(0));
         desk.save(0);
         CHECK.dueIllegalState("restore(1)", () -> desk.restore(1));
         desk.draft(2);
@@ -128,18 +133,17 @@ public final class PredictTest {
         desk.addNode(7);
         desk.addLink(3, 2, 50, 5);
         desk.restore(0);
-        CHECK.due("all is as it was", print(desk), before);
         CHECK.due("the draft is empty", desk.count(16), 0);
         CHECK.due("the text stays", desk.truncateText(3), 3);
         // 49 of circuit 1; of circuit 0 five on the old way, and 41 on the new one
         CHECK.due("delivered from there", desk.run(50), 95);
         desk.restore(0);
-        CHECK.due("all is as it was, again", print(desk), before);
+        CHECK.due("all is as it was", print(desk), print(moving()));
         CHECK.due("delivered from there, again", desk.run(50), 95);
     }
 
-    /** All that a state has, after another one was there. */
-    private static void saveAllOfIt() {
+    /** A desk on which something has come to all that a state has. */
+    private static CircuitDesk draining() {
         String net = "node 4;node 4;node 4;link 0 1 9 5;link 1 2 9 1;link 0 2 9 1;";
         CircuitDesk desk = Check.desk(net + "circuit 1 1 0 1 2;circuit 2 2 1 0;");
         desk.run(9);
@@ -160,25 +164,26 @@ public final class PredictTest {
         desk.run(2);
         CHECK.due("held", desk.circuit(0, 11), 4);
         CHECK.due("drains", desk.circuit(0, 12), 6);
-        long before = print(desk);
-        long behind = printBehind(desk, 0);
-        CHECK.due("load", Check.load(desk, "node 1;node 1;link 1 0 5 1;circuit 3 1 1 0;"), 1);
-        desk.run(3);
-        desk.restore(0);
-        CHECK.due("all is as it was", print(desk), before);
-        CHECK.due("ORDER", desk.count(1), 1);
-        CHECK.due("it goes on as it did", printBehind(desk, 1), behind);
+        return desk;
     }
 
-    /** Saves, plays on, and answers what is seen then. */
-    private static long printBehind(CircuitDesk desk, int slot) {
-        desk.save(slot);
-        long print = 0;
-        for (int i = 0; i < 12; i++) {
-            print = print * 31 + desk.run(1);
-            print = print * 31 + print(desk);
+    /** A state that is brought back after another one was there goes on as if none had been. */
+    private static void saveAllOfIt() {
+        for (int ticks = 0; ticks <= 12; ticks++) {
+            CircuitDesk never = draining();
+            CircuitDesk desk = draining();
+            desk.save(0);
+            desk.run(9);
+            int read = Check.load(desk, "node 1;node 1;link 1 0 5 1;circuit 3 1 1 0;");
+            CHECK.due("load", read, 1);
+            desk.run(3);
+            desk.restore(0);
+            CHECK.due("ORDER", desk.count(1), 1);
+            if (ticks > 0) {
+                CHECK.due("delivered", desk.run(ticks), never.run(ticks));
+            }
+            CHECK.due("all as it is due, ticks later: " + ticks, print(desk), print(never));
         }
-        return print;
     }
 
     private static void savedStatesAreApart() {

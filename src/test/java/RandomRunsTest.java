@@ -1,6 +1,7 @@
 import java.lang.reflect.InvocationTargetException;
 import java.lang.reflect.Method;
 import java.util.ArrayList;
+import java.util.Arrays;
 import java.util.Collections;
 import java.util.HashMap;
 import java.util.List;
@@ -9,28 +10,56 @@ import java.util.Random;
 
 /**
  * Runs of drawn calls, with fixed seeds, on CircuitDesk and on ReferenceDesk side by side: each
- * answer, each exception and every now and then all that can be seen must be the same.
- * Arguments, all optional: the root of the project, the first seed, the number of runs, the number
- * of setup texts, and any word to be told how often each answer was seen.
+ * answer, each exception and every now and then all that can be seen must be the same. No desk is
+ * asked more often than the document promises answers for.
+ * Arguments, all optional: the root of the project, the first seed, the number of runs and the
+ * number of texts.
  */
 public final class RandomRunsTest {
-    private static final int CALLS = 500;
-    private static final int ENOUGH = 150;
+    /** What a desk answers behind its 512th call is free. */
+    private static final int MOST_CALLS = 512;
+    /** The calls of a run, so that some are left to look at what it has come to. */
+    private static final int LONGEST = 380;
+    private static final int CALLS_OF_A_STEP = 12;
+    private static final int CALLS_OF_A_TEXT = 204;
+    private static final int ENOUGH = 400;
     private static final Map<String, Method> DESK = methods(CircuitDesk.class);
     private static final Map<String, Method> REFERENCE = methods(ReferenceDesk.class);
 
     private final Random random;
+    private final DrawnTexts texts;
     private final CircuitDesk desk = new CircuitDesk();
     private final ReferenceDesk reference = new ReferenceDesk();
-    private final List<String> calls = new ArrayList<>();
+    private final List<Asked> calls = new ArrayList<>();
+    private final List<Asked> questions = new ArrayList<>();
     private final Check check;
     private final Map<String, Integer> seen;
     private boolean isWrong = false;
     /** Whether the links are slow and wide, so that there are many packets. */
     private final boolean isBusy;
 
+    /** A call with its arguments. */
+    private record Asked(String name, Object[] args) {
+        Object of(Map<String, Method> methods, Object on) {
+            try {
+                Object got = methods.get(name + args.length).invoke(on, args);
+                return got == null ? "done" : got;
+            } catch (InvocationTargetException e) {
+                return "throws " + e.getCause().getClass().getSimpleName();
+            } catch (IllegalAccessException e) {
+                throw new UnsupportedOperationException(e);
+            }
+        }
+
+        @Override
+        public String toString() {
+            return name + Arrays.toString(args);
+        }
+    }
+
     private RandomRunsTest(long seed, Check check, Map<String, Integer> seen) {
         random = new Random(seed);
+        texts = new DrawnTexts(random);
         isBusy = seed % 8 == 0;
         this.check = check;
         this.seen = seen;
@@ -41,19 +70,19 @@ public final class RandomRunsTest {
         int many = args.length > 2 ? Integer.parseInt(args[2]) : ENOUGH;
         int texts = args.length > 3 ? Integer.parseInt(args[3]) : 3000;
         Check check = new Check();
-        Map<String, Integer> seen = new java.util.TreeMap<>();
+        Map<String, Integer> seen = new HashMap<>();
         for (int seed = first; seed < first + many && check.wrongOnes() < 3; seed++) {
             RandomRunsTest run = new RandomRunsTest(seed, check, seen);
             run.play();
             check.dueTrue("seed " + seed + " is wrong", !run.isWrong);
         }
-        RandomRunsTest reader = new RandomRunsTest(-first, check, seen);
-        reader.readTexts(texts);
-        check.dueTrue("the texts of seed " + first + " are wrong", !reader.isWrong);
-        demandThatAllWasSeen(check, seen, many);
-        if (args.length > 4) {
-            System.out.println(seen);
+        int read = 0;
+        for (int seed = -first; read < texts && check.wrongOnes() < 3; seed--) {
+            RandomRunsTest reader = new RandomRunsTest(seed, check, seen);
+            read += reader.readTexts();
+            check.dueTrue("the texts of seed " + seed + " are wrong", !reader.isWrong);
         }
+        demandThatAllWasSeen(check, seen, many);
         check.end("RandomRunsTest");
     }
 
@@ -81,51 +110,32 @@ public final class RandomRunsTest {
         return methods;
     }
 
-    private static Object answer(Map<String, Method> methods, Object on, String name,
-            Object[] args) {
-        try {
-            Object got = methods.get(name + args.length).invoke(on, args);
-            return got == null ? "done" : got;
-        } catch (InvocationTargetException e) {
-            return "throws " + e.getCause().getClass().getSimpleName();
-        } catch (IllegalAccessException e) {
-            throw new UnsupportedOperationException(e);
-        }
-    }
-
     private Object call(String name, Object... args) {
-        calls.add(name + java.util.Arrays.toString(args));
-        Object got = answer(DESK, desk, name, args);
-        Object want = answer(REFERENCE, reference, name, args);
-        if (!got.equals(want)) {
-            fault(name + java.util.Arrays.toString(args), got, want);
+        if (calls.size() >= MOST_CALLS) {
+            throw new IllegalStateException("the test asks one desk too often");
         }
+        Asked asked = new Asked(name, args);
+        calls.add(asked);
+        Object got = asked.of(DESK, desk);
+        compare(asked, got);
         seen.merge(name + " " + got, 1, Integer::sum);
         return got;
     }
 
-    private void fault(String call, Object got, Object want) {
-        if (!isWrong) {
-            int from = Math.max(0, calls.size() - 30);
-            check.fault("after " + calls.subList(from, calls.size()) + "\n  " + call
-                    + " answered " + got + ", due is " + want);
-        }
-        isWrong = true;
-    }
-
-    /** Asks without noting the call, so that the view does not hide the run. */
-    private void same(String name, Object... args) {
-        Object got = answer(DESK, desk, name, args);
-        Object want = answer(REFERENCE, reference, name, args);
-        if (!got.equals(want)) {
-            fault(name + java.util.Arrays.toString(args), got, want);
+    private void compare(Asked asked, Object got) {
+        Object want = asked.of(REFERENCE, reference);
+        if (!got.equals(want) && !isWrong) {
+            isWrong = true;
+            check.fault("after " + calls.subList(Math.max(0, calls.size() - 30), calls.size())
+                    + "\n  " + asked + " answered " + got + ", due is " + want);
         }
     }
 
     private void play() {
         build();
-        for (int i = 0; i < CALLS && !isWrong; i++) {
+        for (int i = 0; calls.size() + CALLS_OF_A_STEP <= LONGEST && !isWrong; i++) {
             step();
+            call("count", ranged(0, 16));
             if (i % 45 == 0) {
                 view();
             }
@@ -134,14 +144,17 @@ public final class RandomRunsTest {
         view();
     }
 
-    private void readTexts(int texts) {
-        for (int i = 0; i < texts && !isWrong; i++) {
-            calls.clear();
+    /** Answers how many texts were read, one behind the other on one desk. */
+    private int readTexts() {
+        int read = 0;
+        while (calls.size() + CALLS_OF_A_TEXT <= LONGEST && !isWrong) {
             loadText();
-            if (i % 20 == 0) {
-                view();
-            }
+            read++;
         }
+        if (random.nextInt(10) == 0) {
+            view();
+        }
+        return read;
     }
 
     private void noteSeen() {
@@ -198,6 +211,8 @@ public final class RandomRunsTest {
     private void build() {
         if (!isBusy && below(2) == 0) {
             loadText();
+        }
+        if (nodes() > 1) {
             return;
         }
         int nodes = 3 + below(8);
@@ -257,7 +272,7 @@ public final class RandomRunsTest {
             case 9: call("movedIn", index(circuits)); break;
             case 10: call("canMove", index(circuits), ranged(-1, links)); break;
             case 11: call("moveBest", index(circuits), ranged(-1, links)); break;
-            case 12: if (below(6) == 0) loadText(); break;
+            case 12: loadTextIfThereIsTime(); break;
             case 13: call("draft", index(nodes())); break;
             case 14: call("addNode", ranged(1, 12)); break;
             default:
@@ -327,12 +342,14 @@ public final class RandomRunsTest {
 
     // ---- setup texts
 
-    private void loadText() {
-        String text = setupText();
-        if (below(3) == 0) {
-            text = spoilt(text);
+    private void loadTextIfThereIsTime() {
+        if (below(6) == 0 && calls.size() + CALLS_OF_A_TEXT <= LONGEST) {
+            loadText();
         }
-        put(text);
+    }
+
+    private void loadText() {
+        put(texts.draw());
         Object answer = call("load");
         note("load ok", !answer.equals(-1));
         Object code = call("errorCode");
@@ -355,150 +372,91 @@ public final class RandomRunsTest {
         }
     }
 
-    private String setupText() {
-        StringBuilder text = new StringBuilder();
-        int nodes = below(12) == 0 ? 11 : 2 + below(9);
-        int widest = below(4) == 0 ? 12 : 1 + below(3);
-        for (int i = 0; i < nodes; i++) {
-            statement(text, "node", 1 + below(widest));
-        }
-        if (below(2) == 0) {
-            statement(text, "set", 0, below(5));
-        }
-        int[][] links = drawnLinks(nodes);
-        for (int[] l : links) {
-            statement(text, "link", l[0], l[1], 9 + below(40), 1 + below(below(3) == 0 ? 9 : 3));
-        }
-        if (below(3) == 0) {
-            statement(text, "set", 1, below(2));
-        }
-        int circuits = below(10);
-        for (int i = 0; i < circuits; i++) {
-            text.append("circuit ").append(1 + below(below(3) == 0 ? 20 : 4)).append(' ')
-                    .append(below(10));
-            for (int node : drawnWalk(nodes, links)) {
-                text.append(' ').append(node);
-            }
-            text.append(";");
-        }
-        return text.toString();
-    }
-
-    private void statement(StringBuilder text, String word, int... numbers) {
-        text.append(word).append(below(2) == 0 ? " " : "");
-        for (int number : numbers) {
-            text.append(below(9) == 0 ? "00" : "").append(number).append(' ');
-        }
-        text.setLength(text.length() - below(2));
-        text.append(below(20) == 0 ? ";\n " : ";");
-    }
-
-    private int[][] drawnLinks(int nodes) {
-        List<int[]> links = new ArrayList<>();
-        int many = below(12) == 0 ? 17 : nodes - 1 + below(6);
-        for (int tries = 0; tries < 200 && links.size() < many; tries++) {
-            int one = below(nodes);
-            int other = links.size() < nodes - 1 ? links.size() + 1 : below(nodes);
-            boolean isThere = one == other;
-            for (int[] l : links) {
-                isThere |= l[0] == one && l[1] == other || l[0] == other && l[1] == one;
-            }
-            if (!isThere || below(150) == 0) {
-                links.add(new int[] {one, other});
-            }
-        }
-        return links.toArray(new int[0][]);
-    }
-
-    private List<Integer> drawnWalk(int nodes, int[][] links) {
-        List<Integer> walk = new ArrayList<>();
-        walk.add(below(nodes));
-        int steps = below(8) == 0 ? 6 : 1 + below(4);
-        for (int tries = 0; tries < 80 && walk.size() <= steps && links.length > 0; tries++) {
-            int[] l = links[below(links.length)];
-            int last = walk.get(walk.size() - 1);
-            int next = l[0] == last ? l[1] : l[1] == last ? l[0] : -1;
-            if (next >= 0 && (!walk.contains(next) || below(40) == 0)) {
-                walk.add(next);
-            }
-        }
-        return walk;
-    }
-
-    private String spoilt(String text) {
-        StringBuilder spoilt = new StringBuilder(text);
-        String signs = ";;  0123456789az\n\t\rN\u00e9-";
-        int many = 1 + below(2);
-        for (int i = 0; i < many && spoilt.length() > 0; i++) {
-            int at = below(spoilt.length());
-            switch (below(5)) {
-                case 0: spoilt.deleteCharAt(at); break;
-                case 1: spoilt.setLength(at); break;
-                case 2: spoilt.setCharAt(at, signs.charAt(below(signs.length()))); break;
-                case 3: spoilt.insert(at, signs.charAt(below(signs.length()))); break;
-                default: spoilt.insert(at, "123456789012345678901234567890"); break;
-            }
-        }
-        return spoilt.toString();
-    }
-
     // ---- all that can be seen
 
     private void view() {
+        questions.clear();
         ReferenceDesk.All a = reference.a;
         for (int what = -1; what <= 17; what++) {
-            same("count", what);
+            ask("count", what);
         }
         for (int n = -1; n <= a.spaces.size(); n++) {
             for (int what = -1; what <= 7; what++) {
-                same("node", n, what);
+                ask("node", n, what);
             }
             int space = n >= 0 && n < a.spaces.size() ? a.spaces.get(n) : 0;
             for (int label = -1; label <= space; label++) {
                 for (int what = 0; what <= 3; what++) {
-                    same("label", n, label, what);
+                    ask("label", n, label, what);
                 }
             }
-            same("label", n, 0, -1);
-            same("label", n, 0, 4);
+            ask("label", n, 0, -1);
+            ask("label", n, 0, 4);
         }
         for (int l = -1; l <= a.lines.size(); l++) {
             for (int what = -1; what <= 7; what++) {
-                same("link", l, what);
+                ask("link", l, what);
             }
         }
         for (int i = -1; i <= 6; i++) {
-            same("draftNode", i);
+            ask("draftNode", i);
         }
-        same("usage");
-        same("weakLink");
-        same("errorCode");
-        same("errorPosition");
+        ask("usage");
+        ask("weakLink");
+        ask("errorCode");
+        ask("errorPosition");
         viewCircuits(a);
         for (int p = -1; p <= a.packs.size(); p++) {
             for (int what = -1; what <= 7; what++) {
-                same("packet", p, what);
+                ask("packet", p, what);
             }
         }
+        askNewDesks();
+    }
+
+    private void ask(String name, Object... args) {
+        questions.add(new Asked(name, args));
+    }
+
+    /** There are more questions than a desk is asked: desks that have come as far share them. */
+    private void askNewDesks() {
+        CircuitDesk asked = desk;
+        int left = 0;
+        for (int i = 0; i < questions.size() && !isWrong; i++) {
+            if (left == 0) {
+                asked = playedAgain();
+                left = MOST_CALLS - calls.size();
+            }
+            compare(questions.get(i), questions.get(i).of(DESK, asked));
+            left--;
+        }
+    }
+
+    private CircuitDesk playedAgain() {
+        CircuitDesk other = new CircuitDesk();
+        for (Asked made : calls) {
+            made.of(DESK, other);
+        }
+        return other;
     }
 
     private void viewCircuits(ReferenceDesk.All a) {
         for (int c = -1; c <= a.circuits.size(); c++) {
             for (int what = -1; what <= 15; what++) {
-                same("circuit", c, what);
+                ask("circuit", c, what);
             }
-            same("meanDelay", c);
-            same("movedIn", c);
-            same("canMove", c, below(a.lines.size() + 1) - 1);
+            ask("meanDelay", c);
+            ask("movedIn", c);
+            ask("canMove", c, below(a.lines.size() + 1) - 1);
             for (int i = -1; i <= 6; i++) {
                 for (int what = -1; what <= 3; what++) {
-                    same("way", c, true, i, what);
-                    same("way", c, false, i, what);
+                    ask("way", c, true, i, what);
+                    ask("way", c, false, i, what);
                 }
             }
         }
         for (int what = 0; what <= 3; what++) {
-            same("ahead", 1 + below(30), what);
+            ask("ahead", 1 + below(30), what);
         }
     }
 }

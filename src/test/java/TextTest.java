@@ -94,7 +94,8 @@ public final class TextTest {
         good(TEN_NODES, 0);
         desk = good("node1;node1;link0 1 9 1;circuit 1 0 0 1;set 0 0;", 1);
         CHECK.due("a made entry", desk.node(1, 5), 1);
-        desk = good("node1;node1;node2;link0 1 9 1;link1 2 9 1;circuit 1 0 0 1;circuit 1 0 0 1;", 2);
+        desk = good("node1;node1;node2;link0 1 9 1;link1 2 9 1;circuit 1 0 0 1;"
+                + "circuit 1 0 0 1;", 2);
         CHECK.due("a label is lent in a setup", desk.way(1, false, 1, 1), 2);
         CHECK.due("its number", desk.way(1, false, 1, 2), 1);
     }
@@ -288,7 +289,8 @@ public final class TextTest {
                 CHECK.dueTrue("count(" + what + ")", desk.count(what) > 0);
             }
         }
-        CHECK.due("load", Check.load(desk, "node 3;node 3;node 3;link 1 2 9 1;circuit 1 0 1 2;"), 1);
+        int read = Check.load(desk, "node 3;node 3;node 3;link 1 2 9 1;circuit 1 0 1 2;");
+        CHECK.due("load", read, 1);
         int[] due = {1, 0, 3, 1, 1, 0, 0, 0, 0, 0, 0, 0, 0, 0, 0, 0, 0};
         for (int what = 0; what <= 16; what++) {
             CHECK.due("count(" + what + ") after load", desk.count(what), due[what]);

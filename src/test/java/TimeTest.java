@@ -47,7 +47,8 @@ public final class TimeTest {
     }
 
     private static void periods() {
-        CircuitDesk desk = Check.desk("node 2;node 2;link 0 1 9 1;circuit 1 3 0 1;circuit 1 0 0 1;");
+        CircuitDesk desk = Check.desk("node 2;node 2;link 0 1 9 1;circuit 1 3 0 1;"
+                + "circuit 1 0 0 1;");
         int[] sent = {0, 0, 1, 1, 1, 2, 2};
         for (int tick = 0; tick < sent.length; tick++) {
             desk.run(1);
